@@ -141,14 +141,14 @@ public final class LoopTracer {
     }
 
     public int height() {
-        return machine.height;
+        return machine.stack.height;
     }
 
     public int stack(int i) throws IndexOutOfBoundsException {
-        if (i < 0 || i >= machine.height || i >= MOST_HEIGHT) {
+        if (i < 0 || i >= machine.stack.height || i >= MOST_HEIGHT) {
             throw new IndexOutOfBoundsException("no such int on the stack");
         }
-        return machine.stack[i];
+        return machine.stack.ints[i];
     }
 
     public int emitted() {
@@ -310,7 +310,7 @@ public final class LoopTracer {
             }
             return;
         }
-        boolean zero = machine.top() == 0;
+        boolean zero = machine.stack.top() == 0;
         machine.step();
         if (recorder.isOn()) {
             recorder.path.add(from, zero);
@@ -334,7 +334,7 @@ public final class LoopTracer {
 
     private void beginRecording(int head, int guard) {
         recordingsBegun++;
-        recorder.begin(head, guard, machine.height);
+        recorder.begin(head, guard, machine.stack.height);
     }
 
     private void endRecording() {
@@ -350,6 +350,7 @@ public final class LoopTracer {
         recorder.drop();
     }
 
+    /** Asked only where there is fuel for a step: without it there is no step before which to cut off. */
     private boolean cutIsDue() {
         return recorder.isOn() && (recorder.path.length >= MOST_STEPS || code.op(machine.at) == HALT);
     }
@@ -517,33 +518,13 @@ public final class LoopTracer {
         }
     }
 
-    /** What plain steps work on. */
-    private static final class Machine {
-        final Code code;
-        final int[] locals = new int[LOCALS];
-        final int[] stack = new int[MOST_HEIGHT];
-        final int[] memory = new int[PLACES];
-        final int[] output = new int[KEPT_OUTPUT];
-        int state = LOADING;
-        int at;
+    /** At most 16 ints upon one another: the machine's own, and the values that stand for them in a path. */
+    private static final class Pile {
+        final int[] ints = new int[MOST_HEIGHT];
         int height;
-        int emitted;
-        long steps;
-
-        Machine(Code code) {
-            this.code = code;
-        }
-
-        void toBeginning() {
-            at = 0;
-            height = 0;
-            emitted = 0;
-            steps = 0;
-            Arrays.fill(memory, 0);
-        }
 
         int top() {
-            return height > 0 && height <= MOST_HEIGHT ? stack[height - 1] : 0;
+            return height > 0 && height <= MOST_HEIGHT ? ints[height - 1] : 0;
         }
 
         int pop() {
@@ -556,9 +537,41 @@ public final class LoopTracer {
 
         void push(int x) {
             if (height >= 0 && height < MOST_HEIGHT) {
-                stack[height] = x;
+                ints[height] = x;
                 height++;
             }
+        }
+
+        void swap() {
+            int y = pop();
+            int x = pop();
+            push(y);
+            push(x);
+        }
+    }
+
+    /** What plain steps work on. */
+    private static final class Machine {
+        final Code code;
+        final int[] locals = new int[LOCALS];
+        final Pile stack = new Pile();
+        final int[] memory = new int[PLACES];
+        final int[] output = new int[KEPT_OUTPUT];
+        int state = LOADING;
+        int at;
+        int emitted;
+        long steps;
+
+        Machine(Code code) {
+            this.code = code;
+        }
+
+        void toBeginning() {
+            at = 0;
+            stack.height = 0;
+            emitted = 0;
+            steps = 0;
+            Arrays.fill(memory, 0);
         }
 
         void putOut(int x) {
@@ -571,7 +584,7 @@ public final class LoopTracer {
 
         boolean wouldBreak() {
             int op = code.op(at);
-            return (op == DIV || op == REM) && top() == 0;
+            return (op == DIV || op == REM) && stack.top() == 0;
         }
 
         /** How many steps of the path were done before one that goes otherwise or would break. */
@@ -579,7 +592,8 @@ public final class LoopTracer {
             for (int i = 0; i < path.length; i++) {
                 int op = code.op(at);
                 boolean branches = op == IF || op == UNLESS;
-                if (branches && (top() == 0) != path.wasZero(i) || wouldBreak()) {
+                boolean otherwise = branches && (stack.top() == 0) != path.wasZero(i);
+                if (otherwise || wouldBreak()) {
                     return i;
                 }
                 step();
@@ -592,15 +606,16 @@ public final class LoopTracer {
             int op = code.op(at);
             steps++;
             if (op >= ADD && op <= SAME) {
-                int y = pop();
-                push(result(op, pop(), y));
+                int y = stack.pop();
+                stack.push(result(op, stack.pop(), y));
                 at++;
             } else if (op == GOTO) {
                 at = code.argument(at);
             } else if (op == IF || op == UNLESS) {
-                boolean goes = (pop() == 0) == (op == UNLESS);
+                boolean goes = (stack.pop() == 0) == (op == UNLESS);
                 at = goes ? code.argument(at) : at + 1;
             } else if (op == HALT) {
+                // HALT goes on nowhere, so the address stays.
                 state = HALTED;
             } else {
                 move(op, code.argument(at));
@@ -611,39 +626,36 @@ public final class LoopTracer {
         void move(int op, int argument) {
             switch (op) {
                 case PUSH:
-                    push(argument);
+                    stack.push(argument);
                     break;
                 case LOAD:
-                    push(argument >= 0 && argument < LOCALS ? locals[argument] : 0);
+                    stack.push(argument >= 0 && argument < LOCALS ? locals[argument] : 0);
                     break;
                 case STORE:
-                    store(argument, pop());
+                    store(argument, stack.pop());
                     break;
                 case NEG:
                 case NOT:
-                    push(result(op, pop(), 0));
+                    stack.push(result(op, stack.pop(), 0));
                     break;
                 case DUP:
-                    push(top());
+                    stack.push(stack.top());
                     break;
                 case SWAP:
-                    int y = pop();
-                    int x = pop();
-                    push(y);
-                    push(x);
+                    stack.swap();
                     break;
                 case POP:
-                    pop();
+                    stack.pop();
                     break;
                 case EMIT:
-                    putOut(pop());
+                    putOut(stack.pop());
                     break;
                 case PEEK:
-                    push(memory[pop() & 31]);
+                    stack.push(memory[stack.pop() & 31]);
                     break;
                 case POKE:
-                    int word = pop();
-                    memory[pop() & 31] = word;
+                    int word = stack.pop();
+                    memory[stack.pop() & 31] = word;
                     break;
                 default:
                     break;
@@ -849,16 +861,15 @@ public final class LoopTracer {
         }
 
         boolean remove(int address) {
-            Trace trace = find(address);
-            if (trace == null) {
+            if (address < 0 || address >= MOST_WORDS || byAddress[address] == null) {
                 return false;
+            }
+            if (spareCount >= 0 && spareCount < MOST_TRACES) {
+                spares[spareCount] = byAddress[address];
+                spareCount++;
             }
             byAddress[address] = null;
             count--;
-            if (spareCount >= 0 && spareCount < MOST_TRACES) {
-                spares[spareCount] = trace;
-                spareCount++;
-            }
             return true;
         }
 
@@ -876,18 +887,19 @@ public final class LoopTracer {
     private static final class Values {
         final Code code;
         final int[] locals = new int[LOCALS];
-        final int[] stack = new int[MOST_HEIGHT];
+        final Pile stack = new Pile();
         final int[] places = new int[PLACES];
         final int[] ops = new int[MOST_VALUES];
         final int[] lefts = new int[MOST_VALUES];
         final int[] rights = new int[MOST_VALUES];
         final int[] guarded = new int[MOST_VALUES];
-        int height;
         int count;
         int countAtPoke;
 
         Values(Code code) {
             this.code = code;
+            // What is there at first was made by no OP, and these rows are never written again.
+            Arrays.fill(ops, NONE);
         }
 
         void find(Path path) {
@@ -902,12 +914,11 @@ public final class LoopTracer {
                 locals[i] = i;
             }
             for (int i = 0; i < MOST_HEIGHT; i++) {
-                stack[i] = LOCALS + i;
+                stack.ints[i] = LOCALS + i;
             }
             Arrays.fill(places, NONE);
-            Arrays.fill(ops, NONE);
             Arrays.fill(guarded, 0);
-            height = entryHeight;
+            stack.height = entryHeight;
             count = MOST_ENTRIES;
             countAtPoke = MOST_ENTRIES;
         }
@@ -917,60 +928,40 @@ public final class LoopTracer {
             int argument = code.argument(path.addresses[i]);
             switch (op) {
                 case PUSH:
-                    push(constant(argument));
+                    stack.push(constant(argument));
                     break;
                 case LOAD:
-                    push(argument >= 0 && argument < LOCALS ? locals[argument] : 0);
+                    stack.push(argument >= 0 && argument < LOCALS ? locals[argument] : 0);
                     break;
                 case STORE:
-                    store(argument, pop());
+                    store(argument, stack.pop());
                     break;
                 case DUP:
-                    int x = pop();
-                    push(x);
-                    push(x);
+                    stack.push(stack.top());
                     break;
                 case SWAP:
-                    int y = pop();
-                    int below = pop();
-                    push(y);
-                    push(below);
+                    stack.swap();
                     break;
                 case POP:
                 case EMIT:
-                    pop();
+                    stack.pop();
                     break;
                 case IF:
                 case UNLESS:
-                    guardOn(pop(), path, i);
+                    guardOn(stack.pop(), path, i);
                     break;
                 case PEEK:
-                    push(peeked(pop(), path));
+                    stack.push(peeked(stack.pop(), path));
                     break;
                 case POKE:
-                    int value = pop();
-                    notePoke(pop(), value);
+                    int value = stack.pop();
+                    notePoke(stack.pop(), value);
                     break;
                 default:
                     if (op >= ADD && op <= NOT) {
                         work(op, path, i);
                     }
                     break;
-            }
-        }
-
-        int pop() {
-            if (height <= 0 || height > MOST_HEIGHT) {
-                return 0;
-            }
-            height--;
-            return stack[height];
-        }
-
-        void push(int value) {
-            if (height >= 0 && height < MOST_HEIGHT) {
-                stack[height] = value;
-                height++;
             }
         }
 
@@ -1023,18 +1014,18 @@ public final class LoopTracer {
         }
 
         void work(int op, Path path, int i) {
-            int right = op <= SAME ? pop() : NONE;
-            int left = pop();
+            int right = op <= SAME ? stack.pop() : NONE;
+            int left = stack.pop();
             if (op == DIV || op == REM) {
                 guardOn(right, path, i);
             }
             if (isConstant(left) && (right == NONE || isConstant(right))) {
                 path.folded++;
-                push(constant(result(op, numberOf(left), numberOf(right))));
+                stack.push(constant(result(op, numberOf(left), numberOf(right))));
                 return;
             }
             int same = made(op, left, right, MOST_ENTRIES);
-            push(same != NONE ? same : makeNew(op, left, right, path));
+            stack.push(same != NONE ? same : makeNew(op, left, right, path));
         }
 
         int makeNew(int op, int left, int right, Path path) {

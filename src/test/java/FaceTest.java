@@ -29,7 +29,8 @@ public final class FaceTest {
         }
         Check.same("methods", shown, new TreeSet<>(Arrays.asList(METHODS)));
         for (Method m : face.getDeclaredMethods()) {
-            Check.same(m + " hides no public name", Modifier.isPrivate(m.getModifiers()) && names.contains(m.getName()), false);
+            boolean hidden = Modifier.isPrivate(m.getModifiers());
+            Check.same(m + " bears no public name", hidden && names.contains(m.getName()), false);
         }
         TreeSet<String> fields = new TreeSet<>();
         for (Field f : face.getDeclaredFields()) {

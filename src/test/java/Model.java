@@ -453,8 +453,8 @@ final class Model {
                 if (constant) {
                     t.folded++;
                     int b = Integer.parseInt(y.substring(1));
-                    int r = op == 16 ? 0 - b : op == 17 ? (b == 0 ? 1 : 0) : two(op, Integer.parseInt(x.substring(1)), b);
-                    st.add("#" + r);
+                    int one = op == 16 ? 0 - b : b == 0 ? 1 : 0;
+                    st.add("#" + (n == 1 ? one : two(op, Integer.parseInt(x.substring(1)), b)));
                 } else {
                     if (!made.containsKey(key)) {
                         made.put(key, "v" + t.values++);

@@ -23,6 +23,8 @@ public final class PromisesTest {
         promise20Trace();
         promise20TraceOfMemory();
         promise21Guard();
+        promise21Bridges();
+        promise21BridgeLeft();
         promise21Divisions();
         promise22Recording();
         promise22Cuts();
@@ -458,6 +460,7 @@ public final class PromisesTest {
             x.run(26);
         }
         Check.same("16 traces", x.traces(), 16);
+        Check.same("no 17th recording", x.steps(4), 16L);
         Check.same("the 17th was hot", x.heat(16 * 8 + 2), 3);
         for (int k = 0; k < 16; k++) {
             Check.same("by addresses", x.traceAt(k), 8 * k + 2);
@@ -532,6 +535,7 @@ public final class PromisesTest {
         // Put and found at constant places, alike by 31.
         traceIs(recordedLoop(w(PUSH, 1), w(PUSH, 7), POKE, w(PUSH, 33), PEEK, w(PUSH, 1), ADD, EMIT), 0, 9, 0, 0, 1);
         traceIs(recordedLoop(w(PUSH, 2), PEEK, w(PUSH, -30), PEEK, ADD, EMIT), 0, 7, 0, 2, 0);
+        traceIs(recordedLoop(w(PUSH, 2), PEEK, w(PUSH, 18), PEEK, ADD, EMIT), 0, 7, 0, 3, 0);
         traceIs(recordedLoop(w(PUSH, 2), PEEK, w(PUSH, 3), w(LOAD, 0), POKE, w(PUSH, 2), PEEK, SAME, EMIT),
                 0, 10, 0, 2, 0);
         traceIs(recordedLoop(w(PUSH, 2), PEEK, w(PUSH, 2), w(LOAD, 0), POKE, w(PUSH, 2), PEEK, SAME, EMIT,
@@ -599,6 +603,49 @@ public final class PromisesTest {
         for (int a : new int[] {-1, 0, 17, 200, MIN, MAX}) {
             Check.noSuch("guard at " + a, () -> x.guard(a, 0, 0));
         }
+    }
+
+    private static void promise21Bridges() {
+        // Even numbers go round the trace of 9 steps, the others leave it at 7 for a bridge of 6 steps.
+        LoopTracer x = started(1, w(LOAD, 0), w(PUSH, 1), ADD, DUP, w(STORE, 0), w(PUSH, 1), AND, w(IF, 9), w(GOTO, 0),
+                w(LOAD, 0), w(LOAD, 1), AND, w(IF, 14), w(GOTO, 0), w(PUSH, 7), EMIT, w(GOTO, 0));
+        x.run(13);
+        Check.same("hot", x.recording(), 0);
+        x.run(9 + 9);
+        traceIs(x, 0, 9, 1, 2, 0, 1, 0, 0);
+        x.run(4);
+        traceIs(x, 0, 9, 1, 2, 0, 1, 0, 1);
+        guardIs(x, 0, 0, 7, 1, 6, 0, 2, 1, 0);
+        x.run(9);
+        traceIs(x, 0, 9, 1, 2, 0, 2, 1, 1);
+        // 7 steps till the guard and 6 of the bridge: with one step less the bridge is not done.
+        x.run(12);
+        traceIs(x, 0, 9, 1, 2, 0, 3, 1, 1);
+        guardIs(x, 0, 0, 7, 2, 6, 0);
+        Check.same("without the bridge", x.steps(1), 9L + 7 + 7);
+        x.run(1 + 9);
+        x.run(13);
+        traceIs(x, 0, 9, 1, 2, 0, 5, 3, 1);
+        Check.same("with the bridge", x.steps(1), 9L + 7 + 7 + 9 + 7 + 6);
+    }
+
+    private static void promise21BridgeLeft() {
+        // The bridge goes back from 12 while local 0 is below 6; with 7 it is left there, without more.
+        LoopTracer x = started(1, w(LOAD, 0), w(PUSH, 1), ADD, DUP, w(STORE, 0), w(PUSH, 1), AND, w(IF, 9), w(GOTO, 0),
+                w(LOAD, 0), w(PUSH, 6), LESS, w(IF, 0), w(GOTO, 0));
+        x.run(12 + 9);
+        Check.same("the trace", x.trace(0, 0), 9);
+        x.run(12);
+        guardIs(x, 0, 0, 7, 1, 5, 0, 2, 1, 0);
+        x.run(9 + 12);
+        traceIs(x, 0, 9, 1, 2, 0, 3, 2, 1);
+        guardIs(x, 0, 0, 7, 2, 5, 0, 2, 1, 0);
+        x.run(9 + 12);
+        traceIs(x, 0, 9, 1, 2, 0, 5, 3, 1);
+        guardIs(x, 0, 0, 7, 3, 5, 0, 2, 1, 0);
+        Check.same("plain behind it", x.address(), 13);
+        Check.same("nothing is recorded", x.recording(), -1);
+        steps("left", x, 75, 7 + 9 + 12 + 9 + 11, 5, 3, 2, 0);
     }
 
     private static void promise21Divisions() {
@@ -760,6 +807,19 @@ public final class PromisesTest {
         Check.same("the threshold stays", x.recording(), 2);
         x.run(100000);
         Check.same("runs as at first", x.local(1), 441);
+        // Cuts go too: what was cold is not.
+        LoopTracer z = started(1, countDown(2));
+        for (int i = 0; i < 4; i++) {
+            z.run(100);
+            z.start();
+        }
+        Check.same("cold after three cuts", z.steps(4), 3L);
+        z.reset();
+        load(z, countDown(2));
+        z.verify();
+        z.start();
+        z.run(100);
+        Check.same("cold no more", z.steps(4), 1L);
         LoopTracer y = started(3, w(PUSH, 3), w(PUSH, 4), DUP, EMIT, POKE, w(PUSH, 1), w(GOTO, 6));
         y.run(8);
         y.reset();
