@@ -1,11 +1,5 @@
 /** For each promise of the document: ordinary inputs, the edges that it names, and wrong inputs. */
-public final class PromisesTest {
-    private static final int HALT = 0, PUSH = 1, LOAD = 2, STORE = 3, ADD = 4, SUB = 5, MUL = 6, DIV = 7, REM = 8;
-    private static final int AND = 9, OR = 10, XOR = 11, SHL = 12, SHR = 13, LESS = 14, SAME = 15, NEG = 16, NOT = 17;
-    private static final int DUP = 18, SWAP = 19, POP = 20, GOTO = 21, IF = 22, UNLESS = 23, EMIT = 24, PEEK = 25;
-    private static final int POKE = 26;
-    private static final int MIN = Integer.MIN_VALUE, MAX = Integer.MAX_VALUE;
-
+public final class PromisesTest extends Codes {
     public static void main(String[] args) {
         promise01NewObject();
         promise02Poke();
@@ -33,34 +27,6 @@ public final class PromisesTest {
         termsInstructions();
         termsLimitsOfBridges();
         Check.finish("PromisesTest");
-    }
-
-    private static int w(int op, int argument) {
-        return argument * 64 + op;
-    }
-
-    private static LoopTracer loaded(int threshold, int... words) {
-        LoopTracer x = new LoopTracer(threshold);
-        load(x, words);
-        return x;
-    }
-
-    private static void load(LoopTracer x, int... words) {
-        for (int a = 0; a < words.length; a++) {
-            x.poke(a, words[a]);
-        }
-    }
-
-    private static LoopTracer started(int threshold, int... words) {
-        LoopTracer x = loaded(threshold, words);
-        Check.same("verify", x.verify(), 0);
-        x.start();
-        return x;
-    }
-
-    /** Counts local 0 down from n and goes back to 2 while it is not 0: a trace of 6 steps. */
-    private static int[] countDown(int n) {
-        return new int[] {w(PUSH, n), w(STORE, 0), w(LOAD, 0), w(PUSH, 1), SUB, DUP, w(STORE, 0), w(IF, 2), HALT};
     }
 
     private static void promise01NewObject() {
@@ -106,14 +72,6 @@ public final class PromisesTest {
         Check.notNow("poke when RUNNING", () -> x.poke(0, HALT));
         x.run(1);
         Check.notNow("poke when HALTED", () -> x.poke(0, HALT));
-    }
-
-    private static void fault(int due, int place, int... words) {
-        LoopTracer x = loaded(3, words);
-        String what = "fault " + due + " at " + place;
-        Check.same(what, x.verify(), due);
-        Check.same(what + " place", x.place(), place);
-        Check.same(what + " state", x.state(), due == 0 ? LoopTracer.READY : LoopTracer.LOADING);
     }
 
     private static void promise03And04Verify() {
@@ -360,28 +318,22 @@ public final class PromisesTest {
         Check.noSuch("nothing kept over start", () -> x.output(0));
     }
 
-    private static void steps(String when, LoopTracer x, long... due) {
-        for (int what = 0; what < due.length; what++) {
-            Check.same(when + " steps(" + what + ")", x.steps(what), due[what]);
-        }
-    }
-
     private static void promise16Steps() {
         LoopTracer x = started(2, countDown(6));
         x.run(2 + 12);
-        steps("hot", x, 14, 0, 0, 0, 1, 0);
+        stepsAre("hot", x, 14, 0, 0, 0, 1, 0);
         x.run(6);
-        steps("recorded", x, 20, 0, 0, 0, 1, 0);
+        stepsAre("recorded", x, 20, 0, 0, 0, 1, 0);
         x.run(6);
-        steps("one pass", x, 26, 6, 1, 1, 1, 0);
+        stepsAre("one pass", x, 26, 6, 1, 1, 1, 0);
         x.run(5);
-        steps("no fuel for a pass", x, 31, 6, 1, 1, 1, 0);
+        stepsAre("no fuel for a pass", x, 31, 6, 1, 1, 1, 0);
         x.run(1000);
-        steps("halted", x, 39, 11, 2, 1, 1, 0);
+        stepsAre("halted", x, 39, 11, 2, 1, 1, 0);
         x.start();
-        steps("started again", x, 0, 0, 2, 1, 1, 0);
+        stepsAre("started again", x, 0, 0, 2, 1, 1, 0);
         x.run(1000);
-        steps("halted again", x, 39, 35, 8, 6, 2, 1);
+        stepsAre("halted again", x, 39, 35, 8, 6, 2, 1);
         for (int what : new int[] {-1, 6, MIN, MAX}) {
             Check.noSuch("steps " + what, () -> x.steps(what));
         }
@@ -429,15 +381,15 @@ public final class PromisesTest {
         x.run(1);
         Check.same("cut off before the 49th", x.recording(), -1);
         Check.same("no heat", x.heat(0), 0);
-        steps("first cut", x, 109, 0, 0, 0, 1, 1);
+        stepsAre("first cut", x, 109, 0, 0, 0, 1, 1);
         x.run(60 * 2);
-        steps("third cut", x, 229, 0, 0, 0, 3, 3);
+        stepsAre("third cut", x, 229, 0, 0, 0, 3, 3);
         x.run(600);
-        steps("cold", x, 829, 0, 0, 0, 3, 3);
+        stepsAre("cold", x, 829, 0, 0, 0, 3, 3);
         Check.same("heat grows on", x.heat(0), 10);
         x.invalidate(0);
         x.run(59);
-        steps("no more cold", x, 888, 0, 0, 0, 4, 3);
+        stepsAre("no more cold", x, 888, 0, 0, 0, 4, 3);
         words = java.util.Arrays.copyOf(words, 48);
         words[47] = w(GOTO, 0);
         LoopTracer y = started(1, words);
@@ -476,23 +428,6 @@ public final class PromisesTest {
         x.start();
         x.run(26);
         Check.same("made again", x.traceAt(0), 2);
-    }
-
-    private static void traceIs(LoopTracer x, int address, int... due) {
-        for (int what = 0; what < due.length; what++) {
-            int w = what;
-            Check.is("trace(" + address + ", " + what + ")", () -> x.trace(address, w), due[what]);
-        }
-    }
-
-    /** A loop for ever round the words, recorded once. */
-    private static LoopTracer recordedLoop(int... words) {
-        int[] all = java.util.Arrays.copyOf(words, words.length + 1);
-        all[words.length] = w(GOTO, 0);
-        LoopTracer x = started(1, all);
-        x.run(2 * all.length);
-        Check.same("recorded", x.traces(), 1);
-        return x;
     }
 
     private static void promise20Trace() {
@@ -552,19 +487,6 @@ public final class PromisesTest {
         traceIs(recordedLoop(w(LOAD, 0), PEEK, EMIT, w(LOAD, 1), w(PUSH, 1), POKE, w(LOAD, 0), PEEK, EMIT),
                 0, 10, 0, 2, 0);
         traceIs(recordedLoop(w(LOAD, 0), w(PUSH, 1), POKE, w(LOAD, 0), PEEK, EMIT), 0, 7, 0, 1, 0);
-    }
-
-    private static void guardIs(LoopTracer x, int address, int k, int... due) {
-        for (int what = 0; what < due.length; what++) {
-            int w = what;
-            Check.is("guard(" + address + ", " + k + ", " + what + ")", () -> x.guard(address, k, w), due[what]);
-        }
-    }
-
-    /** Of numbers counted down from n in local 0 those that are not even are added in local 1. */
-    private static int[] oddSum(int n) {
-        return new int[] {w(PUSH, n), w(STORE, 0), w(LOAD, 0), w(PUSH, 1), AND, w(UNLESS, 10), w(LOAD, 1), w(LOAD, 0),
-            ADD, w(STORE, 1), w(LOAD, 0), w(PUSH, 1), SUB, DUP, w(STORE, 0), w(IF, 2), HALT};
     }
 
     private static void promise21Guard() {
@@ -645,7 +567,7 @@ public final class PromisesTest {
         guardIs(x, 0, 0, 7, 3, 5, 0, 2, 1, 0);
         Check.same("plain behind it", x.address(), 13);
         Check.same("nothing is recorded", x.recording(), -1);
-        steps("left", x, 75, 7 + 9 + 12 + 9 + 11, 5, 3, 2, 0);
+        stepsAre("left", x, 75, 7 + 9 + 12 + 9 + 11, 5, 3, 2, 0);
     }
 
     private static void promise21Divisions() {
@@ -664,7 +586,7 @@ public final class PromisesTest {
         Check.same("there", x.address(), 16);
         guardIs(x, 0, 0, 2, 0, 0, 0);
         guardIs(x, 0, 1, 16, 0, 0, 1, 0, 0, 0);
-        steps("broken", x, 19 * 5 + 16, 19 * 3 + 16, 4, 3, 2, 1);
+        stepsAre("broken", x, 19 * 5 + 16, 19 * 3 + 16, 4, 3, 2, 1);
         Check.same("nothing is recorded", x.recording(), -1);
         int[] cuts = {2, 3, 3, 3};
         int[] fails = {0, 0, 1, 2};
@@ -674,7 +596,7 @@ public final class PromisesTest {
             x.run(1000);
             guardIs(x, 0, 1, 16, fails[i], 0, cuts[i], 0, 0, 0);
         }
-        steps("three cuts at most", x, 19 + 16, 19 + 16, 12, 7, 4, 3);
+        stepsAre("three cuts at most", x, 19 + 16, 19 + 16, 12, 7, 4, 3);
     }
 
     private static void promise22Recording() {
@@ -731,9 +653,9 @@ public final class PromisesTest {
         Check.same("the outer one is recorded", z.recording(), 0);
         z.run(48);
         Check.same("with 48 steps", z.recording(), 0);
-        steps("no pass for want of fuel", z, 302, 0, 0, 0, 2, 0);
+        stepsAre("no pass for want of fuel", z, 302, 0, 0, 0, 2, 0);
         z.run(6);
-        steps("a pass behind the cut", z, 308, 6, 1, 1, 2, 1);
+        stepsAre("a pass behind the cut", z, 308, 6, 1, 1, 2, 1);
     }
 
     private static void promise23Invalidate() {
@@ -789,7 +711,7 @@ public final class PromisesTest {
         Check.same("emitted", x.emitted(), 0);
         Check.same("traces", x.traces(), 0);
         Check.same("recording", x.recording(), -1);
-        steps("reset", x, 0, 0, 0, 0, 0, 0);
+        stepsAre("reset", x, 0, 0, 0, 0, 0, 0);
         for (int i = 0; i < 16; i++) {
             Check.same("local", x.local(i), 0);
         }
