@@ -890,6 +890,24 @@ public final class EdgesOfCallsTest extends Codes {
             traceIs(x, 0, 8, 1, 1, 0, 0, 0, 0);
             guardIs(x, 0, 0, 4, 0, 0, 0, 0, 0, 0);
         });
+        Check.test("23: The trace goes: one made again has nothing of it", () -> {
+            LoopTracer x = started(1, countDown(4));
+            x.run(1000);
+            traceIs(x, 2, 6, 1, 1, 0, 2, 1, 0);
+            guardIs(x, 2, 0, 7, 0, 0, 1, 0, 0, 0);
+            x.invalidate(2);
+            x.start();
+            x.run(2 + 12);
+            traceIs(x, 2, 6, 1, 1, 0, 0, 0, 0);
+            guardIs(x, 2, 0, 7, 0, 0, 0, 0, 0, 0);
+            LoopTracer y = started(2, countDown(6));
+            y.run(1000);
+            guardIs(y, 2, 0, 7, 1, 0, 0);
+            y.invalidate(2);
+            y.start();
+            y.run(2 + 18);
+            guardIs(y, 2, 0, 7, 0, 0, 0);
+        });
         Check.test("23: and the heat of the address", () -> {
             LoopTracer x = started(3, ring(3));
             x.run(6);

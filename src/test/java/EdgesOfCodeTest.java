@@ -18,10 +18,7 @@ public final class EdgesOfCodeTest extends Codes {
         Check.test("CODE: up to 200 WORDS at addresses 0, 1, ..", () -> {
             LoopTracer x = started(3, join(many(199, w(GOTO, 0)), new int[] {HALT}));
             Check.same("all 200 words are code", x.heat(199), 0);
-            int[] words = new int[200];
-            for (int a = 0; a < 199; a++) {
-                words[a] = w(GOTO, a + 1);
-            }
+            int[] words = join(lead(199), new int[] {HALT});
             LoopTracer y = started(3, words);
             Check.same("through all words", y.run(200), LoopTracer.HALTED);
             Check.same("to the last one", y.address(), 199);
@@ -94,6 +91,29 @@ public final class EdgesOfCodeTest extends Codes {
             words[16] = w(PUSH, 0);
             fault(4, 16, words);
         });
+        Check.test("a STACK of at most 16 ints: each OP does on a full one what it does on another", () -> {
+            int[] ops = {w(STORE, 3), ADD, SUB, MUL, DIV, REM, AND, OR, XOR, SHL, SHR, LESS, SAME, NEG, NOT, SWAP, POP,
+                EMIT, PEEK, POKE, w(IF, 18), w(UNLESS, 18)};
+            for (int op : ops) {
+                int[] behind = {w(PUSH, 9), w(PUSH, 2), op, HALT, HALT};
+                LoopTracer full = started(3, join(many(14, w(PUSH, 5)), behind));
+                LoopTracer low = started(3, join(lead(14), behind));
+                full.run(17);
+                low.run(17);
+                Check.same("height of op " + op, full.height(), low.height() + 14);
+                for (int i = 0; i < low.height(); i++) {
+                    Check.same("stack of op " + op, full.stack(14 + i), low.stack(i));
+                }
+                Check.same("address of op " + op, full.address(), low.address());
+                Check.same("local of op " + op, full.local(3), low.local(3));
+                Check.same("memory of op " + op, full.memory(9), low.memory(9));
+                Check.same("emitted by op " + op, full.emitted(), low.emitted());
+            }
+            LoopTracer x = started(3, join(many(15, w(PUSH, 5)), new int[] {w(PUSH, 8), EMIT, w(LOAD, 0), EMIT, HALT}));
+            x.run(20);
+            Check.same("the topmost of 16", x.output(0), 8);
+            Check.same("the 16th once more", x.output(1), 0);
+        });
         Check.test("a MEMORY of 32 ints", () -> {
             LoopTracer x = started(1000, w(LOAD, 0), w(LOAD, 0), w(PUSH, 100), ADD, POKE, w(LOAD, 0), w(PUSH, 1), ADD,
                     DUP, w(STORE, 0), w(PUSH, 32), SUB, w(IF, 0), HALT);
@@ -111,6 +131,15 @@ public final class EdgesOfCodeTest extends Codes {
             Check.same("first", x.output(0), 5);
             Check.same("second", x.output(1), 4);
         });
+    }
+
+    /** So many words that do nothing but lead to what is behind them. */
+    private static int[] lead(int n) {
+        int[] words = new int[n];
+        for (int a = 0; a < n; a++) {
+            words[a] = w(GOTO, a + 1);
+        }
+        return words;
     }
 
     /** Words that push any int: larger ones than an argument holds are put together. */

@@ -355,6 +355,21 @@ public final class EdgesOfTracesTest extends Codes {
             stepsAre("rounds", x, 45, 35, 7, 7, 1, 0);
             Check.same("at the trace's address", x.address(), 0);
         });
+        Check.test("not recording: behind what was CUT OFF a pass begins where there is a trace", () -> {
+            // The inner loop at 6 has its trace; the outer one at 0 is recorded for 48 steps, which end at 6.
+            LoopTracer x = started(2, w(PUSH, 20), w(STORE, 1), w(PUSH, 0), POP, w(PUSH, 0), POP, w(LOAD, 1), w(PUSH, 1),
+                    SUB, DUP, w(STORE, 1), w(IF, 6), w(GOTO, 0));
+            for (int i = 0; i < 50; i++) {
+                x.run(5);
+            }
+            x.run(4 + 48);
+            Check.same("the inner trace", x.trace(6, 0), 6);
+            Check.same("the outer one is recorded", x.recording(), 0);
+            Check.same("at the inner trace", x.address(), 6);
+            stepsAre("plainly so far", x, 302, 0, 0, 0, 2, 0);
+            x.run(6);
+            stepsAre("a pass", x, 308, 6, 1, 1, 2, 1);
+        });
         Check.test("a pass goes through the address of another trace", () -> {
             LoopTracer x = started(1, w(GOTO, 2), w(GOTO, 0), w(GOTO, 1));
             x.run(5);
@@ -429,6 +444,30 @@ public final class EdgesOfTracesTest extends Codes {
             Check.same("halts", x.run(100), LoopTracer.HALTED);
             stepsAre("left at once", x, 38, 21, 4, 3, 2, 1);
             guardIs(x, 1, 0, 1, 0, 0, 1, 0, 0, 0);
+        });
+        Check.test("the next step is done plainly: no other pass of this trace begins there", () -> {
+            LoopTracer x = verified(2, w(LOAD, 0), w(UNLESS, 8), w(LOAD, 0), w(PUSH, 1), SUB, DUP, w(STORE, 0),
+                    w(GOTO, 1), HALT);
+            x.setLocal(0, 6);
+            x.start();
+            Check.same("halts", x.run(100), LoopTracer.HALTED);
+            stepsAre("left once", x, 45, 21, 4, 3, 1, 0);
+            guardIs(x, 1, 0, 1, 1, 0, 0, 0, 0, 0);
+        });
+        Check.test("the next step is done plainly: no pass of another trace begins there", () -> {
+            // The trace at 0 is left at 1, where there is a trace of rounds with 0; it comes round from its IF on.
+            LoopTracer x = verified(3, w(LOAD, 0), w(IF, 4), w(LOAD, 1), w(GOTO, 1), w(LOAD, 0), w(PUSH, 1), SUB,
+                    w(STORE, 0), w(GOTO, 0));
+            x.setLocal(0, 5);
+            x.start();
+            x.run(5 * 7 + 4 + 3 * 3);
+            traceIs(x, 0, 7, 1, 1, 0, 2, 1, 0);
+            traceIs(x, 1, 3, 1, 0, 0, 0, 0, 0);
+            x.start();
+            x.run(7);
+            stepsAre("one step, three plain ones, a pass", x, 7, 1 + 3, 4, 2, 2, 0);
+            traceIs(x, 0, 7, 1, 1, 0, 3, 1, 0);
+            traceIs(x, 1, 3, 1, 0, 0, 1, 1, 0);
         });
     }
 

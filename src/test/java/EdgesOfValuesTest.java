@@ -56,6 +56,31 @@ public final class EdgesOfValuesTest extends Codes {
             x.run(1 + 7 + 7);
             traceIs(x, 1, 7, 0, 2, 0);
         });
+        Check.test("each of its own: locals and the stack", () -> {
+            // 7 ints of the stack go through locals 0 .. 6; they and locals 9 .. 15 are negated.
+            int[] words = many(7, w(PUSH, 0));
+            for (int i = 0; i < 7; i++) {
+                words = join(words, new int[] {w(STORE, i)});
+            }
+            for (int i = 0; i < 7; i++) {
+                words = join(words, new int[] {w(LOAD, i), NEG, w(LOAD, 9 + i), NEG, POP});
+            }
+            LoopTracer x = started(1, join(words, new int[] {w(GOTO, 7)}));
+            x.run(7 + 43 + 43);
+            traceIs(x, 7, 43, 0, 14, 0);
+        });
+        Check.test("VALUES of a trace are found step by step, and nothing is left of a trace before", () -> {
+            // The first loop folds, stores a constant in local 0 and pokes late; the second one asks for these.
+            LoopTracer x = started(2, w(PUSH, 4), w(STORE, 15), w(PUSH, 5), w(STORE, 0), w(PUSH, 2), w(PUSH, 3), ADD, POP,
+                    w(PUSH, 1), w(PUSH, 7), POKE, w(LOAD, 15), w(PUSH, 1), SUB, DUP, w(STORE, 15), w(IF, 2),
+                    w(PUSH, 4), w(STORE, 15), w(LOAD, 0), NEG, POP, w(LOAD, 1), PEEK, POP, w(LOAD, 1), PEEK, POP,
+                    w(LOAD, 15), w(PUSH, 1), SUB, DUP, w(STORE, 15), w(IF, 19), HALT);
+            Check.same("halts", x.run(1000), LoopTracer.HALTED);
+            traceIs(x, 2, 15, 1, 1, 1);
+            traceIs(x, 19, 15, 1, 3, 0);
+            guardIs(x, 2, 0, 16);
+            guardIs(x, 19, 0, 33);
+        });
         Check.test("STORE, LOAD, DUP and SWAP make no value", () -> {
             found(0, 1, 0, w(LOAD, 0), w(STORE, 5), w(LOAD, 5), DUP, w(LOAD, 1), SWAP, NEG, POP, POP, NEG, POP);
             found(0, 2, 0, w(LOAD, 0), w(LOAD, 1), SWAP, NEG, POP, NEG, POP);

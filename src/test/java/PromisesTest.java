@@ -400,13 +400,7 @@ public final class PromisesTest extends Codes {
 
     private static void promise18And19Traces() {
         // 17 loops, each at 8 k + 2; the table holds 16.
-        int[] words = new int[17 * 8 + 1];
-        for (int k = 0; k < 17; k++) {
-            int[] one = countDown(4);
-            one[7] = w(IF, 8 * k + 2);
-            System.arraycopy(one, 0, words, 8 * k, 8);
-        }
-        LoopTracer x = started(2, words);
+        LoopTracer x = started(2, loops(17));
         for (int k = 0; k < 17; k++) {
             Check.same("traces", x.traces(), k);
             x.run(26);
