@@ -908,6 +908,24 @@ public final class EdgesOfCallsTest extends Codes {
             y.run(2 + 18);
             guardIs(y, 2, 0, 7, 0, 0, 0);
         });
+        Check.test("23: 16 traces go, and 16 are made again, each of its own", () -> {
+            LoopTracer x = started(2, loops(16));
+            x.run(100000);
+            for (int round = 0; round < 2; round++) {
+                Check.same("full", x.traces(), 16);
+                for (int k = 0; k < 16; k++) {
+                    Check.same("there was one", x.invalidate(8 * k + 2), true);
+                }
+                Check.same("empty", x.traces(), 0);
+                x.start();
+                x.run(100000);
+                for (int k = 0; k < 16; k++) {
+                    Check.same("by addresses", x.traceAt(k), 8 * k + 2);
+                    traceIs(x, 8 * k + 2, 6, 1, 1, 0, 1, 0, 0);
+                    guardIs(x, 8 * k + 2, 0, 8 * k + 7, 1, 0, 0);
+                }
+            }
+        });
         Check.test("23: and the heat of the address", () -> {
             LoopTracer x = started(3, ring(3));
             x.run(6);
@@ -1007,6 +1025,20 @@ public final class EdgesOfCallsTest extends Codes {
             x.run(1000);
             x.reset();
             isNew(x);
+        });
+        Check.test("24: All is as at first, from 16 traces to 16 others", () -> {
+            LoopTracer x = started(2, loops(17));
+            x.run(100000);
+            x.reset();
+            isNew(x);
+            load(x, loops(16));
+            x.verify();
+            x.start();
+            x.run(100000);
+            Check.same("full", x.traces(), 16);
+            for (int k = 0; k < 16; k++) {
+                traceIs(x, 8 * k + 2, 6, 1, 1, 0, 1, 0, 0);
+            }
         });
         Check.test("24: All is as at first, in a recording", () -> {
             LoopTracer x = started(1, ring(3));

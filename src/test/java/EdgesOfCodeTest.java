@@ -520,8 +520,10 @@ public final class EdgesOfCodeTest extends Codes {
             fault(3, 2, w(GOTO, 3), HALT, ADD, w(LOAD, 0), w(IF, 2), ADD, HALT);
             // 2 is looked at before the target 4, though both were reached at once.
             fault(3, 2, w(PUSH, 0), w(IF, 4), ADD, HALT, ADD);
-            // Words that were looked at are left alone: loops end.
+            // Words that were looked at are left alone: loops end, and what is behind them is looked at.
             fault(0, -1, w(GOTO, 2), w(GOTO, 0), w(GOTO, 1));
+            fault(3, 2, w(PUSH, 0), w(IF, 0), POP);
+            fault(3, 4, w(PUSH, 0), w(IF, 0), w(LOAD, 0), w(UNLESS, 0), ADD);
         });
         Check.test("(Told at the one that is looked at.)", () -> {
             fault(5, 2, w(LOAD, 0), w(IF, 3), w(PUSH, 1), HALT);
