@@ -528,11 +528,11 @@ public final class LoopTracer {
         }
 
         int pop() {
-            int x = top();
-            if (height > 0) {
-                height--;
+            if (height <= 0 || height > MOST_HEIGHT) {
+                return 0;
             }
-            return x;
+            height--;
+            return ints[height];
         }
 
         void push(int x) {
@@ -543,10 +543,12 @@ public final class LoopTracer {
         }
 
         void swap() {
-            int y = pop();
-            int x = pop();
-            push(y);
-            push(x);
+            if (height < 2 || height > MOST_HEIGHT) {
+                return;
+            }
+            int y = ints[height - 1];
+            ints[height - 1] = ints[height - 2];
+            ints[height - 2] = y;
         }
     }
 

@@ -26,6 +26,7 @@ public final class PromisesTest extends Codes {
         promise24Reset();
         termsInstructions();
         termsLimitsOfBridges();
+        exampleOfReadme();
         Check.finish("PromisesTest");
     }
 
@@ -815,5 +816,21 @@ public final class PromisesTest extends Codes {
         }
         Check.same("two guards without", without, 2);
         Check.same("recordings", x.steps(4), 5L);
+    }
+
+    private static void exampleOfReadme() {
+        LoopTracer x = loaded(2, w(PUSH, 5), w(STORE, 0), w(LOAD, 0), EMIT, w(LOAD, 0), w(PUSH, 1), SUB, DUP, w(STORE, 0),
+                w(IF, 2), HALT);
+        Check.same("README verify", x.verify(), 0);
+        Check.same("README READY", x.state(), LoopTracer.READY);
+        x.start();
+        Check.same("README run", x.run(1000), LoopTracer.HALTED);
+        Check.same("README output", x.output(0), 5);
+        Check.same("README emitted", x.emitted(), 5);
+        Check.same("README steps", x.steps(0), 43L);
+        Check.same("README steps in passes", x.steps(1), 15L);
+        Check.same("README trace", x.trace(2, 0), 8);
+        Check.same("README guards", x.trace(2, 1), 1);
+        Check.same("README guard", x.guard(2, 0, 0), 9);
     }
 }
