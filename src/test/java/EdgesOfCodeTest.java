@@ -265,6 +265,7 @@ public final class EdgesOfCodeTest extends Codes {
         Check.test("18 DUP 19 SWAP 20 POP", () -> {
             loopGives(7, 7, 9, w(LOAD, 1), w(LOAD, 0), DUP, POP, SWAP, POP);
             loopGives(9, 7, 9, w(LOAD, 0), w(LOAD, 1), SWAP, POP);
+            loopGives(2, 7, 9, w(LOAD, 0), w(LOAD, 1), SWAP, SUB);
             loopGives(-2, 7, 9, w(LOAD, 0), w(LOAD, 1), DUP, POP, SUB);
             loopGives(18, 7, 9, w(LOAD, 1), DUP, ADD);
         });
